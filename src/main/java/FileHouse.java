@@ -18,8 +18,8 @@ public final class FileHouse {
     private static final int MOST_FILE_BYTES = 60;
     private static final int MOST_MARK_BYTES = 4;
     private static final int RECORD_HEAD = 2;
-    // The shortest MARK leaves 59 BYTES, and no RECORD but a broken last one has fewer than two.
-    private static final int MOST_RECORDS = 30;
+    // The shortest MARK leaves 59 BYTES, and a whole RECORD takes two or more.
+    private static final int MOST_RECORDS = 29;
 
     private static final int PROPERTY_COUNT = 12;
     private static final int ALL_PROPERTIES = 4095;
@@ -40,10 +40,10 @@ public final class FileHouse {
     private final Make[] makes = new Make[MOST_MAKES];
     private final StoredFile[] files = new StoredFile[MOST_FILES];
     private final Machines machines = new Machines();
-    private final Readers readers = new Readers(machines);
-    private final Turners turners = new Turners(machines);
-    private final Roads roads = new Roads(turners);
-    private final Spans spans = new Spans(turners, readers);
+    private final Readers readers = new Readers();
+    private final Turners turners = new Turners();
+    private final Roads roads = new Roads();
+    private final Spans spans = new Spans();
     private final Reading reading = new Reading();
     private final Reading otherReading = new Reading();
     private int makeCount = 0;
@@ -124,10 +124,7 @@ public final class FileHouse {
         if (!areProperties(drops) || price < 0 || price > MOST_PRICE || !machines.knows(machine)) {
             return NONE;
         }
-        if (turners.size >= MOST_TURNERS) {
-            return NONE;
-        }
-        return turners.add(new Turner(from, to, target.properties & ~drops, price, machine));
+        return turners.add(from, to, target.properties & ~drops, price, machine);
     }
 
     public boolean year(int y) {
@@ -212,7 +209,7 @@ public final class FileHouse {
         if (file == null || makeAt(m) == null) {
             return NONE;
         }
-        roads.search(file, thisYear);
+        roads.search(file, turners, machines, thisYear);
         long found = roads.bestTo(m);
         if (found == Roads.NO_ROAD) {
             return NONE;
@@ -230,7 +227,7 @@ public final class FileHouse {
         if (file == null) {
             return NONE;
         }
-        spans.measure(surely);
+        spans.measure(readers, turners, machines, surely);
         return spans.lastYearOf(file.makeNumber);
     }
 
@@ -238,7 +235,7 @@ public final class FileHouse {
         if (!isYearToCome(y)) {
             return NONE;
         }
-        int goals = readers.makesOpenIn(y);
+        int goals = readers.makesOpenIn(machines, y);
         int price = 0;
         for (int f = 0; f < fileCount; f++) {
             StoredFile file = files[f];
@@ -258,7 +255,7 @@ public final class FileHouse {
         if (!isYearToCome(y) || !isPlanned(file)) {
             return NONE;
         }
-        return cheapestGoal(file, readers.makesOpenIn(y));
+        return cheapestGoal(file, readers.makesOpenIn(machines, y));
     }
 
     public int look(int f, int what) {
@@ -408,7 +405,7 @@ public final class FileHouse {
 
     /** Leaves the FILE's ROADS in roads, so that the PRICE can be asked there. */
     private int cheapestGoal(StoredFile file, int goals) {
-        roads.search(file, thisYear);
+        roads.search(file, turners, machines, thisYear);
         int cheapest = NONE;
         long least = Roads.NO_ROAD;
         for (int m = 0; m < makeCount; m++) {
@@ -439,7 +436,7 @@ public final class FileHouse {
 
     private int filesBeyondReading() {
         // No MACHINE lives MAYBE for a shorter time than SURELY, so MAYBE alone decides.
-        spans.measure(false);
+        spans.measure(readers, turners, machines, false);
         int beyond = 0;
         for (int f = 0; f < fileCount; f++) {
             if (spans.lastYearOf(know(f)) < thisYear) {
@@ -669,14 +666,9 @@ public final class FileHouse {
     }
 
     private static final class Readers {
-        final Machines machines;
         final int[] opened = new int[MOST_READERS];
         final int[] hosts = new int[MOST_READERS];
         int size = 0;
-
-        Readers(Machines machines) {
-            this.machines = machines;
-        }
 
         boolean add(int make, int machine) {
             if (size >= MOST_READERS || isTold(make, machine)) {
@@ -698,7 +690,7 @@ public final class FileHouse {
         }
 
         /** MAKES as bits that some READER opens on a MACHINE that lives SURELY in year y. */
-        int makesOpenIn(int y) {
+        int makesOpenIn(Machines machines, int y) {
             int open = 0;
             for (int i = 0; i < size; i++) {
                 if (machines.liveSurely(hosts[i], y)) {
@@ -725,22 +717,21 @@ public final class FileHouse {
             this.price = price;
             this.machine = machine;
         }
+
+        boolean carriesAll(int needed) {
+            return (needed & ~carries) == 0;
+        }
     }
 
     private static final class Turners {
-        final Machines machines;
         private final Turner[] row = new Turner[MOST_TURNERS];
         int size = 0;
 
-        Turners(Machines machines) {
-            this.machines = machines;
-        }
-
-        int add(Turner turner) {
+        int add(int from, int to, int carries, int price, int machine) {
             if (size >= MOST_TURNERS) {
                 return NONE;
             }
-            row[size] = turner;
+            row[size] = new Turner(from, to, carries, price, machine);
             size++;
             return size - 1;
         }
@@ -767,14 +758,9 @@ public final class FileHouse {
         private static final int LENGTH_BITS = 3;
         private static final int LENGTH_MASK = 7;
 
-        private final Turners turners;
         private final long[] best = new long[MOST_MAKES];
         private final long[] reached = new long[MOST_MAKES];
         private final long[] longer = new long[MOST_MAKES];
-
-        Roads(Turners turners) {
-            this.turners = turners;
-        }
 
         static int priceOf(long road) {
             return (int) (road >> ROW_BITS + LENGTH_BITS);
@@ -804,7 +790,7 @@ public final class FileHouse {
             return m >= 0 && m < MOST_MAKES ? best[m] : NO_ROAD;
         }
 
-        void search(StoredFile file, int y) {
+        void search(StoredFile file, Turners turners, Machines machines, int y) {
             Arrays.fill(best, NO_ROAD);
             Arrays.fill(reached, NO_ROAD);
             int start = file.makeNumber;
@@ -815,16 +801,17 @@ public final class FileHouse {
             reached[start] = EMPTY_ROAD;
             int needed = file.mustKeep & file.has;
             for (int length = 1; length <= MOST_STEPS; length++) {
-                goOneStep(needed, y);
+                goOneStep(needed, turners, machines, y);
             }
         }
 
         /** From the best ROADS of one length to those of the next, as each begins with such a one. */
-        private void goOneStep(int needed, int y) {
+        private void goOneStep(int needed, Turners turners, Machines machines, int y) {
             Arrays.fill(longer, NO_ROAD);
             for (int t = 0; t < turners.size; t++) {
                 Turner turner = turners.at(t);
-                if (turner != null && reached[turner.from] != NO_ROAD && serves(turner, needed, y)) {
+                if (turner != null && reached[turner.from] != NO_ROAD && turner.carriesAll(needed)
+                        && machines.liveSurely(turner.machine, y)) {
                     long road = extended(reached[turner.from], t, turner.price);
                     longer[turner.to] = Math.min(longer[turner.to], road);
                 }
@@ -834,43 +821,32 @@ public final class FileHouse {
                 best[m] = Math.min(best[m], longer[m]);
             }
         }
-
-        private boolean serves(Turner turner, int needed, int y) {
-            return (needed & ~turner.carries) == 0 && turners.machines.liveSurely(turner.machine, y);
-        }
     }
 
     /** For every MAKE the last year in which a FILE of it is READABLE. */
     private static final class Spans {
-        private final Turners turners;
-        private final Readers readers;
         private final int[] ends = new int[MOST_MAKES];
         private final int[] longer = new int[MOST_MAKES];
 
-        Spans(Turners turners, Readers readers) {
-            this.turners = turners;
-            this.readers = readers;
-        }
-
-        void measure(boolean surely) {
+        void measure(Readers readers, Turners turners, Machines machines, boolean surely) {
             Arrays.fill(ends, NONE);
             for (int i = 0; i < readers.size; i++) {
                 int opened = readers.opened[i];
-                int end = readers.machines.endOf(readers.hosts[i], surely);
+                int end = machines.endOf(readers.hosts[i], surely);
                 ends[opened] = Math.max(ends[opened], end);
             }
             for (int length = 1; length <= MOST_STEPS; length++) {
-                goOneStepBack(surely);
+                goOneStepBack(turners, machines, surely);
             }
         }
 
         /** Reads one row and writes another: else one round could go more than one TURNER far. */
-        private void goOneStepBack(boolean surely) {
+        private void goOneStepBack(Turners turners, Machines machines, boolean surely) {
             System.arraycopy(ends, 0, longer, 0, MOST_MAKES);
             for (int t = 0; t < turners.size; t++) {
                 Turner turner = turners.at(t);
                 if (turner != null) {
-                    int end = Math.min(turners.machines.endOf(turner.machine, surely), ends[turner.to]);
+                    int end = Math.min(machines.endOf(turner.machine, surely), ends[turner.to]);
                     longer[turner.from] = Math.max(longer[turner.from], end);
                 }
             }

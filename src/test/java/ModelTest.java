@@ -1,3 +1,6 @@
+import java.util.ArrayList;
+import java.util.Arrays;
+import java.util.List;
 import java.util.Random;
 
 /** All promises: long runs of calls, held against the slow and literal ModelHouse. The seeds are fixed. */
@@ -16,6 +19,7 @@ public final class ModelTest {
     private final int mostMakes;
     private final int mostPrice;
     private final int yearStep;
+    private final List<Integer> turnerFroms = new ArrayList<>();
     private int calls = 0;
 
     private ModelTest(Check check, int seed) {
@@ -25,7 +29,7 @@ public final class ModelTest {
         markBytes = 1 + random.nextInt(3);
         mostMakes = 3 + random.nextInt(10);
         mostPrice = random.nextBoolean() ? 3 : 10000;
-        yearStep = 1 + random.nextInt(60);
+        yearStep = random.nextBoolean() ? 3 : 1 + random.nextInt(60);
     }
 
     public static void main(String[] args) {
@@ -132,7 +136,7 @@ public final class ModelTest {
                 bytes[n - 1] = bytes[n - 1] + bytes[i] & 255;
             }
         }
-        feed(java.util.Arrays.copyOf(bytes, n));
+        feed(Arrays.copyOf(bytes, n));
         int taken = random.nextInt(20) == 0 ? below(62) : n;
         same("file(" + taken + ")", house.file(taken), model.file(taken));
     }
@@ -160,8 +164,12 @@ public final class ModelTest {
                 int to = someMake();
                 int drops = random.nextInt(3) == 0 ? someSet() : 0;
                 int price = below(mostPrice);
+                int number = model.turner(from, to, drops, price, m);
                 same("turner(" + from + ", " + to + ", " + drops + ", " + price + ", " + m + ")",
-                        house.turner(from, to, drops, price, m), model.turner(from, to, drops, price, m));
+                        house.turner(from, to, drops, price, m), number);
+                if (number >= 0) {
+                    turnerFroms.add(from);
+                }
             }
             case 4 -> {
                 int y = random.nextInt(6) == 0 ? below(1000) % 300 : model.count(4) + random.nextInt(yearStep);
@@ -172,7 +180,14 @@ public final class ModelTest {
     }
 
     private void turnFile(int f) {
-        int t = below(model.count(3));
+        int t = below(turnerFroms.size());
+        // Most FILES are of another MAKE than a TURNER's: look for one that is not.
+        for (int more = 0; more < 20 && random.nextInt(10) != 0; more++) {
+            if (t >= 0 && t < turnerFroms.size() && turnerFroms.get(t) == model.know(f)) {
+                break;
+            }
+            t = random.nextInt(Math.max(turnerFroms.size(), 1));
+        }
         if (model.count(1) < 40 || random.nextInt(4) == 0) {
             same("turn(" + f + ", " + t + ")", house.turn(f, t), model.turn(f, t));
         }
@@ -192,10 +207,16 @@ public final class ModelTest {
                 same("record(" + f + ", " + i + ", " + what + ")", house.record(f, i, what), model.record(f, i, what));
             }
             case 3 -> {
-                int g = someFile();
+                int g = random.nextBoolean() && model.look(f, 4) >= 0 ? model.look(f, 4) : someFile();
                 same("kept(" + f + ", " + g + ")", house.kept(f, g), model.kept(f, g));
             }
-            case 4, 5 -> same("road(" + f + ", " + m + ")", house.road(f, m), model.road(f, m));
+            case 4, 5 -> {
+                int price = model.road(f, m);
+                same("road(" + f + ", " + m + ")", house.road(f, m), price);
+                for (int step = 0; step <= 4 && price > 0; step++) {
+                    same("step(" + step + ")", house.step(step), model.step(step));
+                }
+            }
             case 6 -> same("step(" + i + ")", house.step(i), model.step(i));
             case 7 -> same("last(" + f + ", " + surely + ")", house.last(f, surely), model.last(f, surely));
             case 8 -> {

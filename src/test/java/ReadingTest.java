@@ -17,6 +17,7 @@ public final class ReadingTest {
         laterMakesAreWeighed();
         recordsFollowTheMake();
         mostRecords();
+        recordsAreOfTheFileAsked();
         wrongArguments();
         check.end();
     }
@@ -196,6 +197,22 @@ public final class ReadingTest {
         check.is("the last one's place", house.record(0, 28, 2), 59);
         check.is("no thirtieth", house.record(0, 29, 0), -1);
         check.is("30 bends", house.bends(0, 1), 30);
+    }
+
+    private static void recordsAreOfTheFileAsked() {
+        FileHouse house = new FileHouse();
+        Houses.make(house, 3, false, 0, 1);
+        Houses.file(house, 1, 0, 1, 5);
+        Houses.file(house, 1, 1, 0, 1, 0);
+        Houses.file(house, 2, 1, 0);
+        for (int round = 0; round < 2; round++) {
+            check.is("tag in the first", house.record(0, 0, 0), 0);
+            check.is("length in the first", house.record(0, 0, 1), 1);
+            check.is("no second in the first", house.record(0, 1, 0), -1);
+            check.is("tag in the second", house.record(1, 1, 0), 1);
+            check.is("place in the second", house.record(1, 1, 2), 5);
+            check.is("none in the third", house.record(2, 0, 0), -1);
+        }
     }
 
     private static void wrongArguments() {

@@ -43,6 +43,12 @@ public final class RoadTest {
         stepsAre("two are cheaper", house, 1, 2);
         check.is("to its own make", house.road(0, 0), 0);
         stepsAre("to its own make", house);
+        Houses.file(house, 12);
+        check.is("no way back", house.road(1, 0), -1);
+        house.turner(2, 0, 0, 3, 0);
+        check.is("a way back", house.road(1, 0), 3);
+        check.is("and on", house.road(1, 1), 13);
+        stepsAre("and on", house, 3, 1);
     }
 
     private static void fewestTurnersWin() {

@@ -99,6 +99,11 @@ public final class TapeTest {
         check.is("thirteenth make", house.make(1, 0, false, 0), -1);
         check.is("tape stays with the thirteenth", house.count(5), 20);
         check.is("still twelve", house.count(0), 12);
+        house.file(1);
+        check.is("bends by a thirteenth", house.bends(0, 12), -1);
+        check.is("a reader of it", house.reader(12, 0), false);
+        check.is("a turner to it", house.turner(0, 12, 0, 0, 0), -1);
+        check.is("a road to it", house.road(0, 12), -1);
     }
 
     private static void fileTakesBytes() {
@@ -144,6 +149,8 @@ public final class TapeTest {
         check.is("forty-first file", house.file(1), -1);
         check.is("tape stays with it", house.count(5), 20);
         check.is("forty files", house.count(1), 40);
+        check.is("know of it", house.know(40), -1);
+        check.is("look at it", house.look(40, 0), -1);
         check.is("a make can still be made", house.make(1, 0, false, 0), 0);
         check.is("the first file is of it", house.know(0), 0);
     }

@@ -34,6 +34,9 @@ public final class TurnTest {
         }
         check.is("twenty-fifth turner", house.turner(0, 1, 0, 0, 0), -1);
         check.is("24 turners", house.count(3), 24);
+        Houses.file(house, 10);
+        check.is("turn by the twenty-fifth", house.turn(0, 24), -1);
+        check.is("turn by the last but one", house.turn(0, 22), 1);
     }
 
     private static void turnerRefuses() {

@@ -186,8 +186,8 @@ public final class YearTest {
 
     private static void countAnswers() {
         FileHouse house = Houses.withPlainMakes(3);
-        Houses.file(house, 10);
         Houses.file(house, 9);
+        Houses.file(house, 10);
         house.reader(0, 0);
         house.turner(0, 1, 0, 0, 0);
         house.turner(1, 0, 0, 0, 0);
