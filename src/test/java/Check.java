@@ -1,6 +1,7 @@
 /** Compares answers with those that are due, prints the wrong ones, and ends the program with 1 if there were any. */
 final class Check {
     private final String name;
+    private String held = "";
     private int asked = 0;
     private int wrong = 0;
 
@@ -8,12 +9,18 @@ final class Check {
         this.name = name;
     }
 
+    /** From here on the answers are held against these words of the document. */
+    void hold(String section, String words) {
+        Document.mustSay(this, section, words);
+        held = section + ", \"" + words + "\": ";
+    }
+
     void is(String what, long got, long due) {
         asked++;
         if (got != due) {
             wrong++;
             if (wrong <= 50) {
-                System.out.println(name + ": " + what + " answered " + got + ", due is " + due);
+                System.out.println(name + ": " + held + what + " answered " + got + ", due is " + due);
             }
         }
     }
