@@ -88,7 +88,19 @@ public final class RefusedTest {
         Twins.changesNothing(check, what, RefusedTest::filledHouse, call, -1);
     }
 
+    private static FileHouse houseOfFullTape() {
+        FileHouse house = smallHouse();
+        for (int i = 1; i <= 3; i++) {
+            house.feed(i, i, i, i, i);
+        }
+        return house;
+    }
+
     private static void tapeCalls() {
+        Twins.changesNothing(check, "promise 2: feed beyond 80", RefusedTest::houseOfFullTape,
+                house -> house.feed(-1, -1, -1, -1, -1), -1);
+        Twins.changesNothing(check, "promise 4: file of 61 of 80", RefusedTest::houseOfFullTape,
+                house -> house.file(61), -1);
         refused("promise 3: make of 0", house -> house.make(0, 7, true, 1));
         refused("promise 3: make of 5", house -> house.make(5, 7, true, 1));
         refused("promise 3: make with properties -1", house -> house.make(1, -1, true, 1));
@@ -209,7 +221,7 @@ public final class RefusedTest {
         refusedWhenFull("promise 4: file", house -> house.file(1));
         Twins.changesNothing(check, "promise 7: reader", RefusedTest::filledHouse,
                 house -> asNumber(house.reader(3, 0)), 0);
-        refusedWhenFull("promise 8: turner", house -> house.turner(0, 11, 0, 0, 0));
+        refusedWhenFull("promise 8: turner", house -> house.turner(0, 5, 0, 0, 0));
         refusedWhenFull("promise 13: turn", house -> house.turn(0, 0));
     }
 }
