@@ -602,11 +602,13 @@ public final class FileHouse {
 
         boolean agrees(Reading other, int tag) {
             int theirs = other.nextWith(tag, 0);
-            for (int mine = nextWith(tag, 0); mine < size; mine = nextWith(tag, mine + 1)) {
-                if (theirs >= other.size || !sameRecord(mine, other, theirs)) {
-                    return false;
+            for (int mine = 0; mine < size; mine++) {
+                if (tags[mine] == tag) {
+                    if (theirs >= other.size || !sameRecord(mine, other, theirs)) {
+                        return false;
+                    }
+                    theirs = other.nextWith(tag, theirs + 1);
                 }
-                theirs = other.nextWith(tag, theirs + 1);
             }
             return theirs >= other.size;
         }

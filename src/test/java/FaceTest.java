@@ -25,6 +25,7 @@ public final class FaceTest {
         faceIsTheDocuments();
         restIsPrivate();
         sourceKeepsTheRules();
+        loopsShowTheirEnds();
         check.end();
     }
 
@@ -82,15 +83,32 @@ public final class FaceTest {
         }
     }
 
-    private static void sourceKeepsTheRules() throws IOException {
+    private static String code() throws IOException {
         String source = Files.readString(Path.of("src/main/java/FileHouse.java"));
-        String code = source.replaceAll("(?s)/\\*.*?\\*/", "").replaceAll("//[^\n]*", "");
+        return source.replaceAll("(?s)/\\*.*?\\*/", "").replaceAll("//[^\n]*", "");
+    }
+
+    private static void sourceKeepsTheRules() throws IOException {
+        String code = code();
         for (String word : FORBIDDEN) {
             String pattern = Character.isLetter(word.charAt(0)) ? "\\b" + word : word;
             if (word.matches("[a-z]+")) {
                 pattern += "\\b";
             }
             check.is("the source has " + word, Pattern.compile(pattern).matcher(code).find(), false);
+        }
+    }
+
+    /** Rule 9: each loop counts by a fixed step against a bound, and says so in its own line. */
+    private static void loopsShowTheirEnds() throws IOException {
+        Pattern counted = Pattern.compile(
+                "for \\(int (\\w+) = [^;]+; \\1 (<|<=|>=) [^;]+; \\1(\\+\\+| -= \\d+)\\) \\{");
+        for (String line : code().split("\n")) {
+            String loop = line.trim();
+            if (loop.startsWith("for ")) {
+                check.is(loop + " shows its end", counted.matcher(loop).matches(), true);
+            }
+            check.is(loop + " is a loop of another kind", loop.matches(".*\\b(while|do)\\b.*"), false);
         }
     }
 }
